@@ -516,36 +516,6 @@ public final class TaskGrid {
             return runBinary(op, i + 1);
         }
         switch (op) {
-            case PUSH:
-                push(c);
-                break;
-            case OLD:
-                push(viewValue);
-                break;
-            case HAS:
-                push(viewThere ? 1 : 0);
-                break;
-            case ARG:
-                push(arg);
-                break;
-            case DUP:
-                copyTop();
-                break;
-            case SWAP:
-                swapTop();
-                break;
-            case DROP:
-                pop();
-                break;
-            case PUT:
-                viewThere = true;
-                viewValue = pop();
-                break;
-            case REMOVE:
-                // OLD pushes 0 for an entry that is not there.
-                viewThere = false;
-                viewValue = 0;
-                break;
             case JUMP:
                 return (int) c;
             case ZERO:
@@ -555,8 +525,10 @@ public final class TaskGrid {
             case END:
                 runResult = pop();
                 return DONE;
+            default:
+                runPlain(op, c, arg);
+                return i + 1;
         }
-        return i + 1;
     }
 
     private int runBinary(int op, int next) {
@@ -572,6 +544,46 @@ public final class TaskGrid {
         long z = combined(op, x, y);
         push(z);
         return next;
+    }
+
+    /** Runs an instruction that neither fails nor goes elsewhere than to the next one. */
+    private void runPlain(int op, long c, int arg) {
+        long top;
+        switch (op) {
+            case PUSH:
+                push(c);
+                break;
+            case OLD:
+                push(viewValue);
+                break;
+            case HAS:
+                push(viewThere ? 1 : 0);
+                break;
+            case ARG:
+                push(arg);
+                break;
+            case DUP:
+                top = pop();
+                push(top);
+                push(top);
+                break;
+            case SWAP:
+                top = pop();
+                long below = pop();
+                push(top);
+                push(below);
+                break;
+            case DROP:
+                pop();
+                break;
+            case PUT:
+                viewThere = true;
+                viewValue = pop();
+                break;
+            default: // REMOVE; OLD pushes 0 for an entry that is not there
+                viewThere = false;
+                viewValue = 0;
+        }
     }
 
     private static long combined(int op, long x, long y) {
@@ -612,18 +624,5 @@ public final class TaskGrid {
         }
         height--;
         return stack[height];
-    }
-
-    private void copyTop() {
-        long top = pop();
-        push(top);
-        push(top);
-    }
-
-    private void swapTop() {
-        long top = pop();
-        long below = pop();
-        push(top);
-        push(below);
     }
 }
