@@ -333,6 +333,20 @@ public final class PromiseTest {
         due("lost()", 0, x.lost());
     }
 
+    private static void leaveOneBehind() {
+        test = "6 leave, one stays";
+        for (int m = 0; m < 5; m++) {
+            int other = (m + 3) % 5;
+            TaskGrid x = withTasks(0, m);
+            due("submit", TaskGrid.OK, x.submit(0, 1, 10, 8));
+            due("join(" + other + ")", true, x.join(other));
+            due("leave(" + m + ")", true, x.leave(m));
+            lists(x, other + " stays", all(other), all(1 << other));
+            due("value(" + other + ", 10)", 8, x.value(other, 10));
+            due("lost()", 0, x.lost());
+        }
+    }
+
     private static void migrate() {
         test = "7 migrate";
         TaskGrid x = withTasks(1, 3);
@@ -523,6 +537,43 @@ public final class PromiseTest {
         answers("ZERO of 0", 2, PUSH, 2, PUSH, 0, ZERO, 5, DROP, 0, PUSH, 3, END, 0);
         answers("ZERO of 1", 3, PUSH, 2, PUSH, 1, ZERO, 5, DROP, 0, PUSH, 3, END, 0);
         answers("ZERO of 2 to the 32", 3, PUSH, 2, PUSH, 1L << 32, ZERO, 5, DROP, 0, PUSH, 3, END, 0);
+    }
+
+    private static void views() {
+        test = "9 submit, the view";
+        TaskGrid x = withTasks(0, 0);
+        due("has", TaskGrid.OK, deploy(x, 3, HAS, 0, END, 0));
+        for (int key = 0; key < 18; key++) {
+            due("HAS without an entry", TaskGrid.OK, x.submit(0, 3, key, 0));
+            due("result", 0, x.result(0));
+            due("a look makes no entry", false, x.present(0, key));
+            due("put", TaskGrid.OK, x.submit(0, 1, key, -key));
+            due("HAS with an entry", TaskGrid.OK, x.submit(0, 3, key, 0));
+            due("result", 1, x.result(0));
+            due("a look leaves the entry", true, x.present(0, key));
+            due("a look leaves the value", -key, x.value(0, key));
+        }
+        due("remove", TaskGrid.OK, x.submit(0, 2, 5, 0));
+        due("present(0, 5)", false, x.present(0, 5));
+        due("present(0, 11), of the same partition", true, x.present(0, 11));
+        due("add", TaskGrid.OK, x.submit(0, 0, 5, 4));
+        due("result: from 0 again", 4, x.result(0));
+    }
+
+    private static void ownersOfKeys() {
+        test = "9 submit, the owner of a key";
+        for (int key = 0; key < 18; key++) {
+            for (int kind = 2; kind <= 3; kind++) {
+                TaskGrid x = withTasks(1, 0, 1, 2, 3, 4);
+                due("fault", true, x.fault(kind));
+                due("submit for key " + key, TaskGrid.LOST, x.submit(2, 1, key, 4));
+                int owner = key % 6 % 5;
+                for (int m = 0; m < 5; m++) {
+                    due("crash(" + m + ") after fault " + kind + " for key " + key, m != owner, x.crash(m));
+                    due("join(" + m + ")", true, x.join(m));
+                }
+            }
+        }
     }
 
     private static void forced() {
@@ -792,11 +843,14 @@ public final class PromiseTest {
         crashForgetsRecords();
         leave();
         leaveWithBackups();
+        leaveOneBehind();
         migrate();
         migrateOrder();
         fault();
         submit();
         instructions();
+        views();
+        ownersOfKeys();
         forced();
         retry();
         retryRecords();
