@@ -26,7 +26,7 @@ public final class LanguageTest {
     private static final Set<Tree.Kind> REFUSED = Set.of(Tree.Kind.THROW, Tree.Kind.TRY, Tree.Kind.SYNCHRONIZED, Tree.Kind.ASSERT,
         Tree.Kind.INSTANCE_OF, Tree.Kind.LAMBDA_EXPRESSION, Tree.Kind.MEMBER_REFERENCE, Tree.Kind.NULL_LITERAL,
         Tree.Kind.STRING_LITERAL, Tree.Kind.FLOAT_LITERAL, Tree.Kind.DOUBLE_LITERAL, Tree.Kind.NEW_CLASS, Tree.Kind.IMPORT,
-        Tree.Kind.ENHANCED_FOR_LOOP, Tree.Kind.PACKAGE, Tree.Kind.INTERFACE, Tree.Kind.ENUM, Tree.Kind.RECORD);
+        Tree.Kind.PACKAGE, Tree.Kind.INTERFACE, Tree.Kind.ENUM, Tree.Kind.RECORD);
 
     private static int wrong = 0;
 
@@ -106,8 +106,8 @@ public final class LanguageTest {
 
         @Override
         public Void visitMethod(MethodTree tree, Void v) {
-            method = tree.getName().toString();
-            holds(method + " is declared once", declared.add(method));
+            method = named(tree.getName().toString(), tree.getParameters());
+            declared.add(method);
             holds(method + " has at most seven parameters", tree.getParameters().size() <= 7);
             holds(method + " is short", tree.toString().lines().count() <= 60);
             super.visitMethod(tree, v);
@@ -125,7 +125,7 @@ public final class LanguageTest {
 
         @Override
         public Void visitNewArray(NewArrayTree tree, Void v) {
-            holds(tree + " stands in a field's initialiser", inInitialiser);
+            holds(tree + " stands in a field's initialiser or the constructor", inInitialiser || method.startsWith("<init>"));
             holds(tree + " has one length and no elements", tree.getDimensions().size() == 1 && tree.getInitializers() == null);
             return super.visitNewArray(tree, v);
         }
@@ -135,7 +135,7 @@ public final class LanguageTest {
             boolean isSuper = tree.toString().equals("super()");
             holds(tree + " is a call of an own method", isSuper || tree.getMethodSelect().getKind() == Tree.Kind.IDENTIFIER);
             holds(tree + " in " + method + " stands in no call's arguments", arguments == 0);
-            calls.computeIfAbsent(method, name -> new TreeSet<>()).add(tree.getMethodSelect().toString());
+            calls.computeIfAbsent(method, name -> new TreeSet<>()).add(named(tree.getMethodSelect().toString(), tree.getArguments()));
             arguments++;
             super.visitMethodInvocation(tree, v);
             arguments--;
@@ -143,15 +143,29 @@ public final class LanguageTest {
         }
 
         @Override
+        public Void visitForLoop(ForLoopTree tree, Void v) {
+            holdsABound(tree.getCondition());
+            return super.visitForLoop(tree, v);
+        }
+
+        @Override
         public Void visitWhileLoop(WhileLoopTree tree, Void v) {
-            holds("the loop in " + method + " counts", false);
+            holdsABound(tree.getCondition());
             return super.visitWhileLoop(tree, v);
         }
 
         @Override
         public Void visitDoWhileLoop(DoWhileLoopTree tree, Void v) {
-            holds("the loop in " + method + " counts", false);
+            holdsABound(tree.getCondition());
             return super.visitDoWhileLoop(tree, v);
+        }
+
+        void holdsABound(Tree condition) {
+            holds("a loop in " + method + " ends at a bound", condition != null && condition.toString().matches("(?s).*[<>].*"));
+        }
+
+        static String named(String name, List<?> parameters) {
+            return name + "/" + parameters.size();
         }
 
         int depth(String name, Set<String> above) {
@@ -177,7 +191,7 @@ public final class LanguageTest {
                 holds("one class in the file", unit.getTypeDecls().size() == 1);
                 rules.scan(unit, null);
             }
-            holds("the source was read", rules.declared.contains("submit"));
+            holds("the source was read", rules.declared.contains("submit/4"));
             for (String name : rules.declared) {
                 int depth = rules.depth(name, Set.of());
                 holds("calls go at most six deep, not " + depth + " from " + name, depth <= 6);
