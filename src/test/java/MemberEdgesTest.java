@@ -569,6 +569,41 @@ public final class MemberEdgesTest extends Check {
                 entriesOf(x, p, 1, false);
             }
         });
+        sentence("6: a partition that others hold too is handed to nobody, though another member is wanted there", () -> {
+            Grid x = withTasks(1, 0, 2);
+            putAll(x);
+            for (int m : new int[] {1, 3, 4}) {
+                x.due(true).join(m);
+            }
+            x.due(true).leave(0);
+            allLists(x, 2, 4);
+            Grid y = withTasks(1, 0, 2);
+            putAll(y);
+            for (int m : new int[] {1, 3, 4}) {
+                y.due(true).join(m);
+            }
+            y.due(true).leave(2);
+            allLists(y, 0, 1);
+            for (int p = 0; p < 6; p++) {
+                entriesOf(x, p, 2, true);
+                entriesOf(y, p, 0, true);
+            }
+        });
+        sentence("6: a member that is in no list leaves: the lists stay, though others are wanted there", () -> {
+            for (int first = 0; first < 5; first++) {
+                Grid x = withTasks(1, first);
+                putAll(x);
+                for (int i = 1; i < 5; i++) {
+                    x.due(true).join((first + i) % 5);
+                }
+                x.due(true).leave((first + 2) % 5);
+                allLists(x, first, 1 << first);
+                for (int p = 0; p < 6; p++) {
+                    entriesOf(x, p, first, true);
+                }
+                x.due(0).lost();
+            }
+        });
         sentence("6: a partition that m has no part in stays, though one other holds it alone", () -> {
             Grid x = withTasks(0, 0, 1, 2, 3, 4);
             putAll(x);
@@ -708,24 +743,23 @@ public final class MemberEdgesTest extends Check {
         });
         sentence("7: with its records on all of them", () -> {
             for (int client = 0; client < 3; client++) {
-                Grid x = withTasks(2, 4);
-                x.due(true).fault(4);
-                x.due(LOST).submit(client, ADDS, 12, 5);
-                for (int m = 0; m < 4; m++) {
-                    x.due(true).join(m);
-                }
-                x.due(0).migrate();
-                x.due(true).crash(4);
-                for (int m = 0; m < 2; m++) {
+                for (int gone = 0; gone < 3; gone++) {
+                    Grid x = withTasks(2, 4);
                     x.due(true).fault(4);
-                    x.due(LOST).retry(client);
-                    x.due(1).executed();
-                    x.due(true).crash(m);
+                    x.due(LOST).submit(client, ADDS, 12, 5);
+                    for (int m = 0; m < 4; m++) {
+                        x.due(true).join(m);
+                    }
+                    x.due(0).migrate();
+                    x.due(true).crash(4);
+                    for (int m = 0; m < gone; m++) {
+                        x.due(true).crash(m);
+                    }
+                    x.due(gone).owner(0);
+                    x.due(OK).retry(client);
+                    seen(x, client, 5, 1);
+                    entry(x, 2, 12, 5);
                 }
-                x.due(2).owner(0);
-                x.due(OK).retry(client);
-                seen(x, client, 5, 1);
-                entry(x, 2, 12, 5);
             }
         });
         sentence("7: nothing is lost by it", () -> {

@@ -476,6 +476,7 @@ public final class ModelTest {
     }
 
     public static void main(String[] args) {
+        Check.begin();
         for (run = 1; run <= RUNS; run++) {
             int backups = pick(6) - 1;
             grid = new TaskGrid(backups);

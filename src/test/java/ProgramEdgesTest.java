@@ -57,16 +57,17 @@ public final class ProgramEdgesTest extends Check {
             x.due(7).result(0);
         });
         sentence("2: false, and nothing changes, if the draft has 16 already", () -> {
-            Grid x = withMembers(0, 0);
-            addOnes(x, 15, new int[0]);
-            x.due(true).code(END, 0);
             for (int op = 0; op <= 24; op++) {
+                Grid x = withMembers(0, 0);
+                addOnes(x, 15, new int[0]);
+                x.due(true).code(END, 0);
                 x.due(false).code(op, 9);
+                x.due(false).code(op, 9);
+                x.due(OK).deploy(0);
+                x.due(OK).submit(0, 0, 0, 0);
+                x.due(7).result(0);
+                x.due(BAD).deploy(0);
             }
-            x.due(OK).deploy(0);
-            x.due(OK).submit(0, 0, 0, 0);
-            x.due(7).result(0);
-            x.due(BAD).deploy(0);
         });
         sentence("2: after deploy the draft takes 16 again", () -> {
             for (int t : new int[] {0, 4}) {
@@ -452,6 +453,10 @@ public final class ProgramEdgesTest extends Check {
         entry(x, 0, 0, 6);
     }
 
+    private static long[] behind(long[] rest, long... first) {
+        return java.util.stream.LongStream.concat(java.util.Arrays.stream(first), java.util.Arrays.stream(rest)).toArray();
+    }
+
     private static void binary(int op, long x, long y, long want) {
         answers(want, PUSH, x, PUSH, y, op, 0, END, 0);
     }
@@ -481,6 +486,22 @@ public final class ProgramEdgesTest extends Check {
             answers(1, PUSH, -9, PUT, 0, HAS, 0, END, 0);
             answers(0, PUSH, 5, PUT, 0, REMOVE, 0, HAS, 0, END, 0);
             answers(1, REMOVE, 0, PUSH, 0, PUT, 0, HAS, 0, END, 0);
+        });
+        sentence("1 OLD and 2 HAS: the view is of this key's entry, whatever ran before", () -> {
+            Grid x = withTasks(0, 0);
+            deploys(x, REMOVES, HAS, 0, END, 0);
+            for (int key = 0; key < 18; key += 2) {
+                x.due(OK).submit(0, PUTS, key, 5 + key);
+            }
+            for (int key = 0; key < 18; key++) {
+                boolean isThere = key % 2 == 0;
+                x.due(OK).submit(0, REMOVES, key, 0);
+                x.due(isThere ? 1 : 0).result(0);
+                x.due(isThere).present(0, key);
+                x.due(FAILED).submit(0, FAILING, 17 - key, 9);
+                x.due(OK).submit(0, ADDS, key, isThere ? 0 : 5 + key);
+                x.due(5 + key).result(0);
+            }
         });
         sentence("3 ARG: any int", () -> {
             for (int arg : new int[] {Integer.MIN_VALUE, -1, 0, 1, Integer.MAX_VALUE}) {
@@ -574,6 +595,18 @@ public final class ProgramEdgesTest extends Check {
             answers(4, PUSH, 3, PUSH, 4, SWAP, 0, DROP, 0, END, 0);
             answers(3, PUSH, 3, PUSH, 4, DROP, 0, END, 0);
             answers(1, PUSH, 1, PUSH, 2, PUSH, 3, PUSH, 4, DROP, 0, DROP, 0, DROP, 0, END, 0);
+        });
+        sentence("Terms: what is taken is gone: the stack has room for four again", () -> {
+            long[] rest = {PUSH, 5, PUSH, 6, PUSH, 7, PUSH, 8, SUB, 0, MUL, 0, ADD, 0, END, 0};
+            answers(-1, rest);
+            answers(-1, behind(rest, PUSH, 1, DROP, 0));
+            answers(-1, behind(rest, PUSH, 1, PUT, 0));
+            answers(-1, behind(rest, PUSH, 1, ZERO, 0));
+            answers(-1, behind(rest, PUSH, 2, PUSH, 1, ADD, 0, DROP, 0));
+            answers(-1, behind(rest, PUSH, 2, PUSH, 1, DIV, 0, DROP, 0));
+            answers(-1, behind(rest, PUSH, 2, PUSH, 1, REM, 0, DROP, 0));
+            answers(-1, behind(rest, PUSH, 2, PUSH, 1, LESS, 0, DROP, 0));
+            answers(-1, behind(rest, PUSH, 2, PUSH, 1, SWAP, 0, DROP, 0, DROP, 0));
         });
         sentence("18 PUT: takes the top; the entry is there with it", () -> {
             Grid x = withMembers(0, 0);

@@ -199,12 +199,14 @@ public final class RequestEdgesTest extends Check {
         sentence("9: nothing changes: a request that was not answered stays the latest, as it was", () -> {
             for (int key : NO_KEYS) {
                 Grid x = withTasks(0, 0);
+                x.due(OK).submit(0, PUTS, 7, 100);
                 submitWith(x, 1, 1, ADDS, 7, 5);
                 x.due(BAD).submit(1, PUTS, key, 6);
                 x.due(BAD).submit(3, PUTS, 2, 6);
                 x.due(OK).retry(1);
-                seen(x, 1, 5, 1);
-                entry(x, 0, 7, 5);
+                seen(x, 1, 105, 2);
+                entry(x, 0, 7, 105);
+                noEntry(x, 0, 2);
             }
         });
         sentence("9: nothing changes: the number stays, so that the record still counts", () -> {
@@ -644,11 +646,22 @@ public final class RequestEdgesTest extends Check {
             Grid x = withMembers(0, 0);
             deploys(x, 0, JUMP, 0);
             deploys(x, 1, PUSH, 0, ZERO, 0, FAIL, 0);
-            deploys(x, 2, PUSH, 1, PUT, 0, REMOVE, 0, JUMP, 0);
+            deploys(x, 2, PUSH, 1, PUT, 0, JUMP, 2);
             for (int t = 0; t < 3; t++) {
                 x.due(FORCED).submit(0, t, 0, 0);
                 seen(x, 0, 0, t + 1);
                 noEntry(x, 0, 0);
+            }
+        });
+        sentence("Terms: FORCED: the entry is as before, though the view is another or none", () -> {
+            Grid x = withTasks(1, 0, 1);
+            deploys(x, REMOVES, REMOVE, 0, JUMP, 1);
+            deploys(x, FAILING, ARG, 0, PUT, 0, JUMP, 2);
+            x.due(OK).submit(0, PUTS, 0, 3);
+            for (int t : new int[] {REMOVES, FAILING}) {
+                x.due(FORCED).submit(0, t, 0, 8);
+                entry(x, 0, 0, 3);
+                entry(x, 1, 0, 3);
             }
         });
         sentence("Terms: a run begins with an empty stack at instruction 0, whatever ran before", () -> {
@@ -894,14 +907,16 @@ public final class RequestEdgesTest extends Check {
             seen(x, 0, 0, 1);
         });
         sentence("Terms: fault 4: the record is on all copies", () -> {
-            Grid x = withTasks(2, 0, 1, 2, 3, 4);
-            submitWith(x, 4, 0, ADDS, 0, 5);
-            x.due(true).crash(0);
-            retryWith(x, 4, 0);
-            x.due(true).crash(1);
-            x.due(OK).retry(0);
-            seen(x, 0, 5, 1);
-            entry(x, 2, 0, 5);
+            for (int gone = 0; gone < 3; gone++) {
+                Grid x = withTasks(2, 0, 1, 2, 3, 4);
+                submitWith(x, 4, 0, ADDS, 0, 5);
+                for (int m = 0; m < gone; m++) {
+                    x.due(true).crash(m);
+                }
+                x.due(OK).retry(0);
+                seen(x, 0, 5, 1);
+                entry(x, 2, 0, 5);
+            }
         });
         sentence("Terms: fault 4 again where the record was used: nothing more is done", () -> {
             Grid x = withTasks(1, 0, 1);
@@ -959,6 +974,14 @@ public final class RequestEdgesTest extends Check {
             x.due(1).executed();
             x.due(OK).retry(0);
             x.due(2).executed();
+        });
+        sentence("What it is: 512 calls of one object, of executed", () -> {
+            Grid x = new Grid(0);
+            x.due(true).join(0);
+            for (int i = 1; i <= 510; i++) {
+                x.due(NO_TASK).submit(i % 3, 0, i % 18, 0);
+            }
+            x.due(510).executed();
         });
         sentence("17: the requests of all clients are counted, and a loss takes none back", () -> {
             Grid x = withTasks(0, 0);

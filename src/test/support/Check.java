@@ -9,15 +9,17 @@ abstract class Check {
     /** Task numbers of {@link #withTasks}. */
     static final int ADDS = 0, PUTS = 1, REMOVES = 2, FAILING = 3;
 
-    private static final int WRONG_SHOWN = 60;
-    private static final int MILLISECONDS = 120_000;
+    private static final int SHOWN_OF_A_SENTENCE = 5;
+    private static final int MILLISECONDS = 300_000;
 
     private static String sentence = "";
+    private static int wrongInSentence = 0;
     private static int wrong = 0;
 
     /** One sentence of the document, with the test of it alone. */
     static void sentence(String words, Runnable test) {
         sentence = words;
+        wrongInSentence = 0;
         try {
             test.run();
         } catch (RuntimeException | StackOverflowError e) {
@@ -27,7 +29,8 @@ abstract class Check {
 
     static void report(String what) {
         wrong++;
-        if (wrong <= WRONG_SHOWN) {
+        wrongInSentence++;
+        if (sentence.isEmpty() || wrongInSentence <= SHOWN_OF_A_SENTENCE) {
             System.out.println(sentence.isEmpty() ? what : "[" + sentence + "] " + what);
         }
     }
@@ -40,7 +43,7 @@ abstract class Check {
             } catch (InterruptedException e) {
                 return;
             }
-            System.out.println("[" + sentence + "] did not end");
+            System.out.println(sentence + " did not end");
             Runtime.getRuntime().halt(1);
         });
         watch.setDaemon(true);
